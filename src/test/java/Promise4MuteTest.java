@@ -1,45 +1,92 @@
-/** Promise 4: mute sets the step to 127 and answers the step before. */
+/** Promise 4: mute silences. */
 public final class Promise4MuteTest {
-    private static int wrong = 0;
-
-    private static void due(String call, long got, long want) {
-        if (got != want) {
-            wrong++;
-            System.out.println(call + " answered " + got + ", due is " + want);
-        }
-    }
-
     public static void main(String[] args) {
-        muteFromEveryStep();
-        silenceUntilANudge();
-        if (wrong != 0) {
-            System.exit(1);
-        }
+        Sentences.holds("mute() sets the step to 127", Promise4MuteTest::setsStep127);
+        Sentences.holds("and answers the step that held just before the call", Promise4MuteTest::answersTheStepBefore);
+        Sentences.holds("the answer is in 0..127 and equals what step() would have answered", Promise4MuteTest::answersAsStepWould);
+        Sentences.holds("if the step was already 127, the answer is 127 and it stays 127", Promise4MuteTest::muteOfTheMuted);
+        Sentences.holds("after the call, step() answers 127", Promise4MuteTest::stepAfterMute);
+        Sentences.holds("after the call, apply(s) answers 0 for every s", Promise4MuteTest::silence);
+        Sentences.holds("until a later nudge moves the step", Promise4MuteTest::nudgeEndsTheSilence);
+        Sentences.holds("the table MAN does not change", Promise4MuteTest::tableIsKept);
+        Sentences.endOfTest();
     }
 
-    private static void muteFromEveryStep() {
-        for (int step = 0; step <= 127; step++) {
-            DbFader x = new DbFader();
-            x.nudge(step);
-            due("step " + step + ": mute()", x.mute(), step);
-            due("step " + step + ": step() after mute()", x.step(), 127);
-            due("step " + step + ": mute() again", x.mute(), 127);
-            due("step " + step + ": step() after mute() again", x.step(), 127);
-        }
-    }
-
-    private static void silenceUntilANudge() {
-        DbFader x = new DbFader();
-        x.nudge(30);
+    private static DbFader mutedFrom(int step) {
+        DbFader x = Faders.atStep(step);
         x.mute();
-        for (int s = Short.MIN_VALUE; s <= Short.MAX_VALUE; s++) {
-            due("muted: apply(" + s + ")", x.apply((short) s), 0);
+        return x;
+    }
+
+    private static void setsStep127() {
+        for (int step = 0; step <= 127; step++) {
+            Sentences.due("muted from " + step + ": nudge(0)", mutedFrom(step).nudge(0), 127);
         }
-        due("muted: step()", x.step(), 127);
-        x.nudge(0);
-        due("muted, nudge(0): apply(-1)", x.apply((short) -1), 0);
-        due("muted: nudge(-127)", x.nudge(-127), 0);
-        due("muted, nudge(-127): apply(32767)", x.apply((short) 32767), 32766);
-        due("muted, nudge(-127): mute()", x.mute(), 0);
+    }
+
+    private static void answersTheStepBefore() {
+        for (int step = 0; step <= 127; step++) {
+            Sentences.due("step " + step + ": mute()", Faders.atStep(step).mute(), step);
+        }
+    }
+
+    private static void answersAsStepWould() {
+        DbFader x = new DbFader();
+        for (int d : Faders.DISTANCES) {
+            x.nudge(d);
+            int reported = x.step();
+            int answered = x.mute();
+            Sentences.due("after nudge(" + d + "): mute()", answered, reported);
+            Sentences.dueWithin("mute() after nudge", d, answered, 0, 127);
+        }
+    }
+
+    private static void muteOfTheMuted() {
+        DbFader x = Faders.atStep(127);
+        for (int again = 1; again <= 300; again++) {
+            Sentences.due("mute() at step 127, time " + again, x.mute(), 127);
+            Sentences.dueStep(x, "muted again", 127);
+        }
+    }
+
+    private static void stepAfterMute() {
+        for (int step = 0; step <= 127; step++) {
+            DbFader x = mutedFrom(step);
+            Sentences.dueStep(x, "muted from " + step, 127);
+            Sentences.dueStep(x, "muted from " + step + ", asked again", 127);
+        }
+    }
+
+    private static void silence() {
+        for (int step = 0; step <= 127; step++) {
+            DbFader x = mutedFrom(step);
+            for (int s = Short.MIN_VALUE; s <= Short.MAX_VALUE; s++) {
+                Sentences.dueApply(x, 127, s, 0);
+            }
+        }
+    }
+
+    private static void nudgeEndsTheSilence() {
+        for (int d = -126; d <= -1; d++) {
+            DbFader x = mutedFrom(30);
+            x.apply((short) 32767);
+            x.step();
+            Sentences.dueApply(x, 127, -32768, 0);
+            // Neither moves the step, so neither ends the silence.
+            x.nudge(0);
+            x.nudge(1);
+            Sentences.dueApply(x, 127, -32768, 0);
+            x.nudge(d);
+            Sentences.dueApply(x, 127 + d, -32768, Faders.dueAnswer(127 + d, -32768));
+        }
+    }
+
+    private static void tableIsKept() {
+        for (int step = 0; step <= 127; step++) {
+            DbFader x = mutedFrom(step);
+            Sentences.due("MAN, muted from " + step, new String(Faders.table(x)), new String(Faders.TABLE));
+            x.nudge(-127);
+            Sentences.dueApply(x, 0, 32767, 32766);
+        }
     }
 }
