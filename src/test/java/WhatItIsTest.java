@@ -2,6 +2,9 @@ import java.lang.reflect.Constructor;
 import java.lang.reflect.Field;
 import java.lang.reflect.Method;
 import java.lang.reflect.Modifier;
+import java.util.ArrayList;
+import java.util.Collections;
+import java.util.List;
 import java.util.Set;
 import java.util.TreeSet;
 
@@ -23,13 +26,15 @@ public final class WhatItIsTest {
     }
 
     private static void stepIsAByte() {
-        Set<String> types = new TreeSet<>();
+        // A list, because a second step or table would be state beyond the document's.
+        List<String> types = new ArrayList<>();
         for (Field field : DbFader.class.getDeclaredFields()) {
             if (!Modifier.isStatic(field.getModifiers())) {
                 types.add(field.getType().getSimpleName());
             }
         }
-        Sentences.due("types of the state", types, new TreeSet<>(Set.of("byte", "char[]")));
+        Collections.sort(types);
+        Sentences.due("types of the state", types, List.of("byte", "char[]"));
 
         DbFader x = new DbFader();
         Sentences.dueStep(x, "at first", 0);
